@@ -5,6 +5,7 @@ public final class TextTest {
         feeding();
         emptyTexts();
         goodTexts();
+        fullTexts();
         faultsOfOrder();
         faultsOfNumbers();
         faultsOfCounts();
@@ -80,6 +81,21 @@ public final class TextTest {
         Check.same("kind", x.place(0, 0), 2);
         Check.same("level", x.place(0, 1), 17);
         Check.same("hours of channel", x.channel(0, 2), 9);
+    }
+
+    private static void fullTexts() {
+        text("s1;p0 1;" + " ".repeat(232), 1, Check.NONE);
+        text(" ".repeat(232) + "s1;p0 1;", 1, Check.NONE);
+        text("s1" + " ".repeat(238), -11, 240);
+        text("s1;p0 " + "0".repeat(234), -12, 6);
+        // letters of an earlier, longer text do not stand behind this one
+        GossipArches x = Check.made("s1;p0 12;");
+        Check.feed(x, "s2");
+        Check.same("no ';' is left over", x.works(), -11);
+        Check.same("the end has the fault", x.fault(), 2);
+        Check.feed(x, "s2;p0 1");
+        Check.same("no figure is left over", x.works(), -11);
+        Check.same("the end has it, too", x.fault(), 7);
     }
 
     private static void faultsOfOrder() {
@@ -179,6 +195,12 @@ public final class TextTest {
         Check.same("heard stays", x.place(1, 2), 5);
         Check.same("level stays", x.place(0, 1), 90);
         Check.same("text is gone", x.told(3), 0);
+        Check.feed(x, "s9;p0 5;p0 4;c0 1 1;c");
+        Check.same("another fault", x.works(), -11);
+        Check.feed(x, "s3;p0 2;");
+        Check.same("nothing of it is left", x.works(), 1);
+        Check.same("nor of its channels", x.told(2), 0);
+        Check.same("nor of its M", x.told(0), 3);
     }
 
     private static void newWorksBeginAnew() {
