@@ -20,7 +20,7 @@ public final class GossipArches {
     private static final int HOURS_AHEAD = 99;
     private static final int NO_CRACK = CHANNELS_MOST, CASES = CHANNELS_MOST + 1;
     private static final int PAST_MOST = 20, IMAGES = 2, DRIPS_MOST = 6, ENTRIES_MOST = 15;
-    private static final int BILLION = 1000000000;
+    private static final int BILLION = 1000000000, SEED_BITS = 2147483647;
 
     private final Reader reader = new Reader();
     private Plan plan = new Plan();
@@ -439,7 +439,7 @@ public final class GossipArches {
 
     private void stepSeed() {
         // the wrap-around of int loses only bits that 2 to the 31 leaves out as well
-        seed = seed * 1103515245 + 12345 & Integer.MAX_VALUE;
+        seed = seed * 1103515245 + 12345 & SEED_BITS;
     }
 
     /** The works as the text told them; nothing done later changes them. */

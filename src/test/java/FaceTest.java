@@ -111,7 +111,7 @@ public final class FaceTest {
     private static void words() throws IOException {
         String code = source().replaceAll("(?s)/\\*.*?\\*/", " ").replaceAll("//[^\n]*", " ");
         String[] ruledOut = {"\\bthrow\\b", "\\btry\\b", "\\bcatch\\b", "\\bsynchronized\\b", "\\bassert\\b", "->", "::",
-            "\\bpackage\\b", "\\bSystem\\.(?!arraycopy\\b)", "\\bMath\\.\\w*Exact\\b", "\\bvolatile\\b", "\\bnative\\b",
+            "\\bpackage\\b", "\\bSystem\\.(?!arraycopy\\b)", "\\bMath\\.\\w*Exact\\b", "\\b(Integer|Long)\\.[A-Z]", "\\bvolatile\\b", "\\bnative\\b",
             "\\bThread\\b", "\\bRandom\\b", "\\bprotected\\b", "@", "\\bwhile \\(true\\)", "for \\(;;\\)"};
         for (String rule : ruledOut) {
             Check.holds("the code does without " + rule, !Pattern.compile(rule).matcher(code).find());
