@@ -450,11 +450,11 @@ public final class GossipArches {
         int channels = 0;
         final int[] kind = new int[PLACES_MOST];
         final int[] level = new int[PLACES_MOST];
-        /** All places, the higher ahead: every channel leads from an earlier one to a later one. */
-        final int[] falling = new int[PLACES_MOST];
         final int[] from = new int[CHANNELS_MOST];
         final int[] to = new int[CHANNELS_MOST];
         final int[] span = new int[CHANNELS_MOST];
+        /** All channels, those from higher places ahead: what leads to a place stands ahead of what leads from it. */
+        final int[] falling = new int[CHANNELS_MOST];
 
         void wipe() {
             room = 0;
@@ -487,11 +487,6 @@ public final class GossipArches {
             if (places >= PLACES_MOST) {
                 return;
             }
-            int i = places;
-            for (; i > 0 && level[falling[i - 1]] < l; i--) {
-                falling[i] = falling[i - 1];
-            }
-            falling[i] = places;
             kind[places] = k;
             level[places] = l;
             places++;
@@ -501,6 +496,11 @@ public final class GossipArches {
             if (channels >= CHANNELS_MOST || !mayJoin(a, b)) {
                 return;
             }
+            int i = channels;
+            for (; i > 0 && level[from[falling[i - 1]]] < level[a]; i--) {
+                falling[i] = falling[i - 1];
+            }
+            falling[i] = channels;
             from[channels] = a;
             to[channels] = b;
             span[channels] = h;
@@ -868,49 +868,35 @@ public final class GossipArches {
     private static final class Spread {
         /** The hours at which the saying comes to a place. */
         final long[] comes = new long[PLACES_MOST];
-        /** The hours at which it is heard there, by cracks too. */
-        private final long[] sounds = new long[PLACES_MOST];
+        /** The hours at which it is heard there by cracks. */
+        private final long[] drips = new long[PLACES_MOST];
 
         void run(Plan plan, int saying, int shut, int[] crack) {
             Arrays.fill(comes, 0L);
-            Arrays.fill(sounds, 0L);
-            if (plan.places == 0) {
-                return;
-            }
-            comes[SPRING] = 1L;
-            for (int i = 0; i < plan.places; i++) {
-                int p = plan.falling[i];
-                sounds[p] |= comes[p];
-                if (comes[p] != 0 && plan.goingOn(p, 1 << saying) != 0) {
-                    leave(plan, p, shut, crack);
-                }
-            }
-        }
-
-        private void leave(Plan plan, int p, int shut, int[] crack) {
-            for (int c = 0; c < plan.channels; c++) {
-                if (plan.from[c] == p && !has(shut, c)) {
-                    comes[plan.to[c]] |= comes[p] << plan.span[c] & TRIED_HOURS;
+            Arrays.fill(drips, 0L);
+            comes[SPRING] = plan.places == 0 ? 0L : 1L;
+            for (int i = 0; i < plan.channels; i++) {
+                int c = plan.falling[i];
+                int a = plan.from[c];
+                if (comes[a] != 0 && !has(shut, c) && plan.goingOn(a, 1 << saying) != 0) {
+                    comes[plan.to[c]] |= comes[a] << plan.span[c] & TRIED_HOURS;
                     if (crack[c] >= 0 && crack[c] < PLACES_MOST) {
-                        sounds[crack[c]] |= comes[p];
+                        drips[crack[c]] |= comes[a];
                     }
                 }
             }
         }
 
-        boolean isHeardAt(int p) {
-            return sounds[p] != 0;
-        }
-
         /** The first hour at which the saying is heard at place p, or NEVER. */
         int firstHour(int p) {
-            return sounds[p] == 0 ? NEVER : Long.numberOfTrailingZeros(sounds[p]);
+            long heard = comes[p] | drips[p];
+            return heard == 0 ? NEVER : Long.numberOfTrailingZeros(heard);
         }
 
         int heardAtPlaces() {
             int set = 0;
             for (int p = 0; p < PLACES_MOST; p++) {
-                if (isHeardAt(p)) {
+                if ((comes[p] | drips[p]) != 0) {
                     set |= 1 << p;
                 }
             }
@@ -1036,19 +1022,13 @@ public final class GossipArches {
             Arrays.fill(count, 0);
             hours[SPRING] = 0;
             count[SPRING] = 1;
-            for (int i = 0; i < plan.places; i++) {
-                if (count[plan.falling[i]] > 0) {
-                    goOn(plan, plan.falling[i], shut);
-                }
-            }
-        }
-
-        private void goOn(Plan plan, int p, int shut) {
-            for (int c = 0; c < plan.channels; c++) {
-                if (plan.from[c] == p && !has(shut, c)) {
-                    int b = plan.to[c];
-                    hours[b] = Math.max(hours[b], hours[p] + plan.span[c]);
-                    count[b] += count[p];
+            for (int i = 0; i < plan.channels; i++) {
+                int c = plan.falling[i];
+                int a = plan.from[c];
+                int b = plan.to[c];
+                if (count[a] > 0 && !has(shut, c)) {
+                    hours[b] = Math.max(hours[b], hours[a] + plan.span[c]);
+                    count[b] += count[a];
                 }
             }
         }
