@@ -442,6 +442,14 @@ public final class TextEdgesTest {
         Check.same("none after a fault", x.told(3), 0);
         Check.feed(x, "s1;p0 1;p1 0;");
         Check.same("not behind the text with the fault", x.works(), 2);
+        // what a text told ahead of its fault is not told
+        Check.feed(x, TEN + "x");
+        Check.same("a fault behind ten channels", x.works(), -11);
+        Check.feed(x, "s2;p0 1;");
+        Check.same("works of one place", x.works(), 1);
+        Check.same("no channels are left over", x.told(2), 0);
+        Check.same("no places are left over", x.told(1), 1);
+        Check.same("no M is left over", x.told(0), 2);
     }
 
     private static void worksBeginAnew() {
@@ -591,6 +599,10 @@ public final class TextEdgesTest {
         x.crack(0, 2);
         Check.same("a crack to the first place", x.channel(1, 5), 0);
         Check.same("a crack to the last place", x.channel(0, 5), 2);
+        Check.same("open", x.channel(1, 4), 0);
+        x.gate(1, true);
+        Check.same("shut", x.channel(1, 4), 1);
+        Check.same("the other is open", x.channel(0, 4), 0);
         Check.same("no silt", x.channel(0, 3), 0);
         x.letIn(255);
         x.hour(1);

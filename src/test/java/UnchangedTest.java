@@ -15,7 +15,8 @@ public final class UnchangedTest {
         new UnchangedTest("M alone", UnchangedTest::roomAlone).withoutPlaces();
         new UnchangedTest("midway", UnchangedTest::midway).withFourPlaces();
         new UnchangedTest("midway", UnchangedTest::midway).asking();
-        new UnchangedTest("midway", UnchangedTest::midway).faults();
+        new UnchangedTest("midway, no letters", UnchangedTest::midwayWithoutLetters).faults();
+        new UnchangedTest("full", UnchangedTest::full).faults();
         new UnchangedTest("full", UnchangedTest::full).whenFull();
         new UnchangedTest("full text", UnchangedTest::fullText).whenTextIsFull();
         Check.end();
@@ -46,6 +47,12 @@ public final class UnchangedTest {
 
     /** Something of all there is: an image, changes to undo, drips, a book, letters, a fault told earlier. */
     private static GossipArches midway() {
+        GossipArches x = midwayWithoutLetters();
+        Check.feed(x, "s9;p2 8");
+        return x;
+    }
+
+    private static GossipArches midwayWithoutLetters() {
         GossipArches x = Check.made(FOUR);
         Check.feed(x, "s1;x");
         x.works();
@@ -65,7 +72,6 @@ public final class UnchangedTest {
         x.drip(2, 0, 5);
         x.write(0, 7);
         x.write(1, 3);
-        Check.feed(x, "s9;p2 8");
         return x;
     }
 
@@ -80,7 +86,8 @@ public final class UnchangedTest {
         x.keep(1);
         x.letIn(6);
         x.hour(1);
-        for (int i = 0; i < 25; i++) {
+        // open at last, so that what drips fits
+        for (int i = 0; i < 26; i++) {
             x.gate(0, i % 2 == 0);
         }
         for (int i = 0; i < 6; i++) {
@@ -297,11 +304,8 @@ public final class UnchangedTest {
         for (int i = 0; i < texts.length; i++) {
             GossipArches touched = state.get();
             GossipArches left = state.get();
-            // the letters that wait are a text with a fault themselves
-            Check.same(name + ": its own letters", touched.works(), -11);
             Check.feed(touched, texts[i]);
             Check.same(name + ": works of '" + texts[i] + "'", touched.works(), due[i]);
-            left.works();
             Watch.alikeButFault(name + ": the fault of '" + texts[i] + "'", touched, left);
         }
     }
