@@ -24,6 +24,7 @@ public final class TextEdgesTest {
         hoursOfChannelsAre1To9();
         numbersHaveOneToThreeFigures();
         blanksMayStandAnywhereButWithinNumbers();
+        aBlankAtEachSpot();
         twoNumbersSideBySideNeedABlank();
         lettersThatAreNoWord();
         theEndIsAtTheTextsLength();
@@ -294,6 +295,26 @@ public final class TextEdgesTest {
         works("s1;" + (char) 10, -11, 3);
         works("s1;" + (char) 160, -11, 3);
         good("s1;" + (char) 32, 0);
+    }
+
+    /** A blank put in at each spot of a whole text: between two figures it parts a number, elsewhere it changes nothing. */
+    private static void aBlankAtEachSpot() {
+        String whole = "s10;p0 20;p003 010;c0 01 1;";
+        for (int at = 0; at <= whole.length(); at++) {
+            boolean within = at > 0 && at < whole.length()
+                && Character.isDigit(whole.charAt(at - 1)) && Character.isDigit(whole.charAt(at));
+            String text = whole.substring(0, at) + " " + whole.substring(at);
+            if (!within) {
+                good(text, 2);
+                Check.same("M of '" + text + "'", Check.made(text).told(0), 10);
+                Check.same("level of '" + text + "'", Check.made(text).place(1, 1), 10);
+                Check.same("end of '" + text + "'", Check.made(text).channel(0, 1), 1);
+            } else {
+                GossipArches x = new GossipArches();
+                Check.feed(x, text);
+                Check.holds("two numbers for one are a fault: '" + text + "'", x.works() < -10);
+            }
+        }
     }
 
     private static void twoNumbersSideBySideNeedABlank() {
